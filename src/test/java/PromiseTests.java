@@ -32,6 +32,7 @@ public final class PromiseTests {
         promise = 25; going();
         promise = 26; goneLines();
         promise = 27; counts();
+        promise = 0; fullCircuit();
         CHECKS.end();
     }
 
@@ -465,6 +466,30 @@ public final class PromiseTests {
         due("off", y.settles(), NONE);
         y.line(0, true);
         due("on", y.settles(), 1);
+        FirstStates z = countingDown();
+        due("the longest way", z.settles(), 63);
+        z.tick(62);
+        due("one ahead of it", z.possible(), 2);
+        due("one more", z.settles(), 1);
+    }
+
+    /** Six stores that count down to row 0 and stay there. */
+    private static FirstStates countingDown() {
+        FirstStates x = new FirstStates();
+        for (int i = 0; i < 6; i++) {
+            x.store(NONE, 1);
+        }
+        int borrow = 0;
+        for (int i = 1; i < 6; i++) {
+            borrow = x.gate(2, borrow, i, 0);
+        }
+        for (int i = 0; i < 6; i++) {
+            x.reads(i, x.gate(3, i, borrow, 0));
+            if (i < 5) {
+                borrow = x.gate(1, borrow, x.gate(0, i, 0, 0), 0);
+            }
+        }
+        return x;
     }
 
     private static void nextRows() {
@@ -488,6 +513,12 @@ public final class PromiseTests {
         due("begun", x.next(0), 9);
         x.store(2, 0);
         due("begun with 0", x.next(16), 9);
+        FirstStates y = new FirstStates();
+        y.store(0, 0);
+        y.store(1, 1);
+        y.line(0, true);
+        due("the first begun with 0", y.next(3), 2);
+        due("the second's line is off", y.next(1), 0);
     }
 
     private static void leaning() {
@@ -580,6 +611,14 @@ public final class PromiseTests {
         FirstStates y = shifting();
         y.tick(3);
         due("all rows at first", y.alone(0), 3);
+        for (int line = 0; line < 4; line++) {
+            FirstStates z = new FirstStates();
+            z.store(line, 1);
+            for (int other = 0; other < 4; other++) {
+                due("store of line " + line, z.alone(other), other == line ? 1 : NONE);
+            }
+        }
+        due("the longest way", countingDown().alone(0), 63);
         due("nothing changes", y.count(3), 3);
     }
 
@@ -590,6 +629,8 @@ public final class PromiseTests {
         due("mend(1)", x.mend(1), 6);
         due("mend(2)", x.mend(2), 2);
         due("mend(3)", x.mend(3), 0);
+        due("the longest way", countingDown().mend(63), 0);
+        due("one tick less", countingDown().mend(62) > 0 ? 1 : 0, 1);
         x.tick(3);
         due("all rows at first", x.mend(2), 2);
         due("nothing changes", x.possible(), 1);
@@ -613,6 +654,9 @@ public final class PromiseTests {
 
     private static void needs() {
         FirstStates x = new FirstStates();
+        for (int pair = 0; pair < 16; pair++) {
+            due("at first", x.need(pair / 4, pair % 4, NONE), NONE);
+        }
         due("line a", x.need(4, 0, 99), UNKNOWN);
         due("line b", x.need(0, -1, 0), UNKNOWN);
         due("21", x.need(0, 1, 21), OUTSIDE);
@@ -689,5 +733,48 @@ public final class PromiseTests {
         }
         due("count(6)", x.count(6), OUTSIDE);
         due("count(-1)", x.count(-1), OUTSIDE);
+    }
+
+    /** 32 nodes, 6 stores, 4 inputs: every call has its whole room to look at. */
+    private static void fullCircuit() {
+        FirstStates x = new FirstStates();
+        for (int i = 0; i < 4; i++) {
+            x.input();
+        }
+        for (int i = 4; i < 10; i++) {
+            x.store(i < 8 ? i - 4 : NONE, i & 1);
+        }
+        for (int i = 10; i < 32; i++) {
+            due("gate", x.gate(3, i - 10, i - 1, 0), i);
+        }
+        for (int i = 4; i < 10; i++) {
+            due("reads", x.reads(i, 31), i);
+        }
+        due("possible", x.possible(), 64);
+        due("sure(31)", x.sure(31), 2);
+        due("told(31)", x.told(31), 2);
+        due("settles", x.settles(), NONE);
+        due("alone", x.alone(3), NONE);
+        due("depends", x.depends(9, 4) + x.depends(9, 9) > 0 ? 1 : 0, 1);
+        due("known", x.known(true), 0);
+        due("tick", x.tick(64), 2);
+        due("row(0)", x.row(0), 0);
+        due("row(1)", x.row(1), 63);
+        for (int line = 0; line < 4; line++) {
+            x.line(line, true);
+        }
+        due("tick", x.tick(1), 2);
+        due("row(0)", x.row(0), 10);
+        due("row(1)", x.row(1), 58);
+        due("known", x.known(false), 4);
+        due("known by parts", x.known(true), 4);
+        due("mend", x.mend(64), 48);
+        due("next(63) differs by none of the lined", x.next(63) & 15, 10);
+        due("next(64)", x.next(64), OUTSIDE);
+        for (int i = 0; i < 4; i++) {
+            x.set(i, 1);
+        }
+        due("sure of a set input", x.sure(3), 1);
+        due("a tick", x.tick(1) <= 2 ? 1 : 0, 1);
     }
 }
