@@ -20,6 +20,10 @@ final class Checks {
         due(what, so ? 1 : 0, 1);
     }
 
+    int made() {
+        return made;
+    }
+
     void end() {
         System.out.println(name + ": " + made + " checks, " + wrong + " wrong");
         if (wrong != 0) {
