@@ -74,5 +74,17 @@ public final class FaceTests {
         CHECKS.holds("no lambda", !code.contains("->"));
         CHECKS.holds("no method reference", !code.contains("::"));
         CHECKS.holds("no division", !code.contains("/") && !code.contains("%"));
+        lookAtMaking(code);
+    }
+
+    /** All calls of a run share one room, so only fields and the outer constructor make objects. */
+    private static void lookAtMaking(String code) {
+        for (String line : code.split("\n")) {
+            if (line.matches(".*\\bnew\\b.*")) {
+                CHECKS.holds("made once for an object: " + line.trim(),
+                        line.matches(" +(private )?final (int|long)\\[] \\w+ = new .*")
+                                || line.matches(" {8}\\w+ = new (Circuit|Walk|Parts|Needs)\\(.*"));
+            }
+        }
     }
 }
